@@ -32,6 +32,7 @@ final class PromiseTest {
         test.exports();
         test.exportTexts();
         test.limits();
+        test.longestBranch();
         test.failedCallsLeaveNoTrace();
         test.checks.end("PromiseTest");
     }
@@ -879,6 +880,28 @@ final class PromiseTest {
         }
         at(1, 0, 0, 5, 5);
         due(57, "below", () -> board.below(3));
+    }
+
+    private void longestBranch() {
+        fresh("10 to 17 trees: one branch of 60 acts");
+        box(0, 0, 0, 0, 5, 5);
+        due(0, "branches of the last act", () -> board.branches(0));
+        on(OUT, 0, 0);
+        for (int act = 1; act < 60; act++) {
+            move(1, 0, 0, act, 0);
+        }
+        due(1, "counts 0", () -> board.counts(0));
+        due(1, "counts 59", () -> board.counts(59));
+        back(0, 0);
+        at(0, 58, 0, 5, 5);
+        on(0, 0, 0);
+        at(0, 59, 0, 5, 5);
+        for (int act = 0; act < 60; act++) {
+            back(0, 0);
+        }
+        due(60, "below the root", () -> board.below(0));
+        back(STATE, 0);
+        due(0, "isThere", () -> board.isThere(0));
     }
 
     private void failedCallsLeaveNoTrace() {
