@@ -8,12 +8,14 @@ final class ModelTest {
     private final Sketchlock board = new Sketchlock();
     private final Model model = new Model();
     private final StringBuilder story = new StringBuilder();
+    private final int shapesWanted;
     private long seed;
 
     private ModelTest(Checks checks, int run) {
         this.checks = checks;
         this.run = run;
         seed = run * 7919L + 12345L;
+        shapesWanted = run % 3 == 0 ? 10 : 2 + below(6);
     }
 
     public static void main(String[] args) {
@@ -83,24 +85,48 @@ final class ModelTest {
         return below(10 + run % 3 * 2) - 1 + below(3);
     }
 
+    /** Every other run lays the kinds that join for x or y, with ties, more often: parts with rings come of that. */
+    private int kind() {
+        int turn = below(30);
+        if (turn == 0) {
+            return below(2) * 8 - 1;
+        }
+        if (run % 2 == 0 || turn < 8) {
+            return below(7);
+        }
+        int[] joining = {Sketchlock.TIE, run % 4 == 1 ? Sketchlock.TOUCH : Sketchlock.OVER,
+            run % 4 == 1 ? Sketchlock.WIDTH : Sketchlock.HEIGHT};
+        return joining[below(3)];
+    }
+
     private int place() {
         int kind = below(20);
         if (kind == 0) {
             return below(2) == 0 ? -1000 + below(3) : 998 + below(3);
         }
-        return run % 4 == 0 ? below(13) - 6 : run % 4 == 1 ? 985 + below(15) : below(1999) - 999;
+        switch (run / 4 % 4) {
+            case 0:
+                return below(13) - 6;
+            case 1:
+                return 985 + below(15);
+            case 2:
+                return -999 + below(15);
+            default:
+                return below(1999) - 999;
+        }
     }
 
     private int size() {
         int kind = below(20);
-        return kind == 0 ? below(2) * 99 + below(2) : run % 4 == 3 ? 1 + below(99) : 1 + below(6);
+        return kind == 0 ? below(2) * 99 + below(2) : run % 5 == 3 ? 1 + below(99) : 1 + below(6);
     }
 
     // ---- calls
 
     private void change() {
         int drawer = drawer();
-        switch (below(20)) {
+        boolean isEnough = shapesMade() >= shapesWanted;
+        switch (isEnough ? 4 + below(16) : below(20)) {
             case 0:
             case 1: {
                 int x = place(), y = place(), width = size(), height = size();
@@ -137,7 +163,7 @@ final class ModelTest {
             case 8:
             case 9:
             case 10: {
-                int kind = below(30) == 0 ? below(2) * 8 - 1 : below(7), shape = shape(), other = shape();
+                int kind = kind(), shape = shape(), other = shape();
                 same("lay(" + drawer + ", " + kind + ", " + shape + ", " + other + ")",
                         () -> board.lay(drawer, kind, shape, other), () -> model.lay(drawer, kind, shape, other));
                 return;

@@ -19,6 +19,8 @@ final class PromiseTest {
         test.moves();
         test.sizes();
         test.places();
+        test.rings();
+        test.ends();
         test.rules();
         test.rulesInOnePart();
         test.classes();
@@ -340,6 +342,88 @@ final class PromiseTest {
         resize(2, 0, 1, 99, 1);
         at(0, 990, -998, 9, 9);
         at(1, 999, -999, 99, 1);
+    }
+
+    /** Rings of rules that fit no more, with the lead in them and beside them, and in acts that are done again. */
+    private void rings() {
+        fresh("7 places: a ring beside the lead");
+        for (int shape = 0; shape < 6; shape++) {
+            box(shape, 0, shape, shape, 5, 5);
+        }
+        lay(0, 0, ALIGN, 0, 1);
+        lay(1, 0, TOUCH, 1, 2);
+        lay(2, 0, TOUCH, 2, 3);
+        lay(3, 0, TIE, 1, 3);
+        lay(4, 0, WIDTH, 5, 2);
+        lay(5, 0, WIDTH, 4, 3);
+        resize(STATE, 1, 5, 6, 5);
+        resize(STATE, 1, 5, 4, 5);
+        resize(2, 1, 4, 4, 5);
+        at(2, 5, 2, 5, 5);
+        at(3, 10, 3, 4, 5);
+        drop(5, 1, 3);
+        resize(3, 1, 5, 6, 5);
+        at(1, 0, 1, 5, 5);
+        at(2, 5, 2, 6, 5);
+        at(3, 11, 3, 4, 5);
+
+        fresh("17 a ring in acts that are done again");
+        for (int shape = 0; shape < 4; shape++) {
+            box(shape, 0, shape, shape, 5, 5);
+        }
+        lay(0, 2, OVER, 0, 1);
+        lay(1, 2, OVER, 1, 2);
+        lay(2, 2, TIE, 0, 2);
+        lay(3, 2, HEIGHT, 3, 1);
+        back(0, 2);
+        back(0, 2);
+        resize(2, 3, 1, 5, 8);
+        at(2, 2, 13, 5, 5);
+        on(1, 2, 0);
+        due(1, "isVoid", () -> board.isVoid(8));
+        at(1, 1, 5, 5, 5);
+        at(2, 2, 10, 5, 5);
+        on(1, 2, 0);
+        move(3, 1, 2, 0, 0);
+        askAndMake(0, "b0:-2,-10,5,5;b1:1,-5,5,5;b2:0,0,5,5;b3:3,3,5,5;r0;r1;r2;r3;");
+        due(0, "broken", () -> board.broken());
+        back(1, 2);
+        back(0, 2);
+        at(1, 1, -8, 5, 8);
+        at(0, 0, -13, 5, 5);
+    }
+
+    /** Places that would be told behind a number's end, for the first and the last shape and both axes. */
+    private void ends() {
+        fresh("7 places: the first shape behind the lowest number");
+        box(0, 0, -998, -998, 3, 3);
+        box(1, 0, 0, 0, 3, 3);
+        lay(0, 0, TOUCH, 0, 1);
+        lay(1, 0, OVER, 0, 1);
+        lay(2, 0, WIDTH, 0, 1);
+        lay(3, 0, HEIGHT, 0, 1);
+        resize(2, 1, 1, 4, 4);
+        at(0, -999, -999, 4, 4);
+        at(1, -995, -995, 4, 4);
+        resize(STATE, 1, 1, 5, 4);
+        resize(STATE, 1, 1, 4, 5);
+        resize(2, 1, 0, 5, 5);
+        at(0, -999, -999, 5, 5);
+        at(1, -994, -994, 5, 5);
+
+        fresh("7 places: the last shape behind the highest number");
+        for (int shape = 0; shape < 10; shape++) {
+            box(shape, 0, 987 + shape, 987 + shape, 4, 4);
+        }
+        lay(STATE, 0, TOUCH, 9, 8);
+        lay(STATE, 0, OVER, 9, 8);
+        lay(0, 0, TOUCH, 8, 9);
+        lay(1, 0, OVER, 8, 9);
+        at(9, 999, 999, 4, 4);
+        resize(STATE, 1, 8, 5, 4);
+        resize(STATE, 1, 8, 4, 5);
+        resize(2, 1, 8, 3, 2);
+        at(9, 998, 997, 4, 4);
     }
 
     private void rules() {
