@@ -47,6 +47,11 @@ final class Checks {
         System.out.println(what + " answered " + answer + ", due is " + due);
     }
 
+    /** How many answers were looked at. */
+    int made() {
+        return right + wrong;
+    }
+
     boolean hasFailed() {
         return wrong > 0;
     }
