@@ -74,6 +74,13 @@ abstract class BoardChecks {
                 () -> board.addBox(drawer, x, y, width, height));
     }
 
+    /** Boxes of 5 by 5, each on the diagonal and 10 from the one before, by drawer 0. */
+    final void boxes(int count) {
+        for (int shape = 0; shape < count; shape++) {
+            box(shape, 0, shape * 10, shape * 10, 5, 5);
+        }
+    }
+
     final void label(Object due, int drawer, int x, int y, boolean isTurned) {
         due(due, "addLabel of " + drawer + " at " + x + " " + y, () -> board.addLabel(drawer, x, y, isTurned));
     }

@@ -1,6 +1,6 @@
 import java.io.IOException;
 
-/** Each line under a promise of the document, what is returned, its ranges and what is thrown, has a test of its own. */
+/** Each line under a promise of the document (what is returned, ranges, what is thrown) has a test of its own. */
 final class LinesTest extends SentenceChecks {
     private static final int[] NO_DRAWERS = {-1, 4, MIN, MAX};
 
@@ -43,13 +43,6 @@ final class LinesTest extends SentenceChecks {
     }
 
     // ---- what several tests start from
-
-    /** Boxes of 5 by 5, each on the diagonal and 10 from the one before, by drawer 0. */
-    private void boxes(int count) {
-        for (int shape = 0; shape < count; shape++) {
-            box(shape, 0, shape * 10, shape * 10, 5, 5);
-        }
-    }
 
     private void movesUpTo(int acts) {
         for (int act = Integer.parseInt(Checks.answerOf(() -> board.acts())); act < acts; act++) {
@@ -716,7 +709,8 @@ final class LinesTest extends SentenceChecks {
 
     private void below() {
         section("13");
-        says("Returns how many acts are in the tree of a drawer below the node at which it stands, directly or over others.");
+        says("Returns how many acts are in the tree of a drawer below the node at which it stands, directly or over"
+                + " others.");
         tree();
         below(6, 0);
         below(0, 1);
@@ -1017,6 +1011,11 @@ final class LinesTest extends SentenceChecks {
         }
         lay(6, 1, TIE, 0, 1);
         holds(1, 6);
+        again();
+        boxes(2);
+        lay(0, 1, TOUCH, 1, 0);
+        back(0, 1);
+        holds(0, 0);
         says("Throws `IndexOutOfBoundsException` as told");
         holds(OUT, 0);
         boxes(2);
@@ -1024,8 +1023,8 @@ final class LinesTest extends SentenceChecks {
         for (int rule : new int[] {-1, 1, MIN, MAX}) {
             holds(OUT, rule);
         }
-        says("Throws `java` .util.NoSuchElementException if one of its shapes is not there, or it is a TIE that is not in"
-                + " force");
+        says("Throws `java` .util.NoSuchElementException if one of its shapes is not there, or it is a TIE that is not"
+                + " in force");
         boxes(1);
         box(1, 1, 20, 20, 5, 5);
         lay(0, 2, ALIGN, 0, 1);

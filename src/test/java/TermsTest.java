@@ -22,13 +22,6 @@ final class TermsTest extends SentenceChecks {
 
     // ---- what several tests start from
 
-    /** Boxes of 5 by 5, each on the diagonal and 10 from the one before, by drawer 0. */
-    private void boxes(int count) {
-        for (int shape = 0; shape < count; shape++) {
-            box(shape, 0, shape * 10, shape * 10, 5, 5);
-        }
-    }
-
     /** Two boxes, and a rule on them that was laid and taken back: whether it would hold. */
     private void wouldHold(int due, int kind, int[] a, int[] b) {
         again();
@@ -51,6 +44,11 @@ final class TermsTest extends SentenceChecks {
         part(forY, shape, false);
     }
 
+    private void isNumber(int due, int shape, int what) {
+        number(due, shape, what);
+        numberAnew(due, shape, what);
+    }
+
     private static int[] row(int... numbers) {
         return numbers;
     }
@@ -59,7 +57,8 @@ final class TermsTest extends SentenceChecks {
 
     private void whatItIs() {
         section("What it is");
-        says("drawers add boxes and labels, move and resize them, and lay rules on two shapes, which move others along");
+        says("drawers add boxes and labels, move and resize them, and lay rules on two shapes, which move others"
+                + " along");
         box(0, 0, 0, 0, 4, 4);
         spell(0);
         label(1, 1, 9, 9, false);
@@ -408,6 +407,7 @@ final class TermsTest extends SentenceChecks {
         at(0, 1, 6, 9, 9);
         at(1, 11, 16, 8, 8);
         holds(1, 0);
+        twelveTies();
         says("(each time that this is done)");
         boxes(2);
         move(1, 1, 1, 30, 40);
@@ -436,6 +436,27 @@ final class TermsTest extends SentenceChecks {
         allHold(laid.length);
         resize(2, 2, 0, 14, 15);
         allHold(laid.length);
+    }
+
+    private void twelveTies() {
+        again();
+        for (int shape = 0; shape < 10; shape++) {
+            box(shape, 0, shape * shape, -3 * shape, 5, 5);
+        }
+        for (int rule = 0; rule < 12; rule++) {
+            lay(rule, 1, TIE, rule % 9, rule < 9 ? rule + 1 : rule - 7);
+        }
+        move(10, 2, 9, 181, -127);
+        resize(1, 2, 4, 9, 9);
+        allHold(12);
+        for (int shape = 0; shape < 10; shape++) {
+            isNumber(100 + shape * shape, shape, 0);
+            isNumber(-100 - 3 * shape, shape, 1);
+        }
+        move(10, 3, 0, -1, 1);
+        back(0, 3);
+        allHold(12);
+        number(100, 0, 0);
     }
 
     private void parts() {
@@ -896,9 +917,9 @@ final class TermsTest extends SentenceChecks {
         sizeTo(3, axis, 0, 6);
         on(1, 1, 0);
         isVoid(1, 8);
-        number(5, 0, axis + 2);
-        number(5, 1, axis);
-        number(10, 2, axis);
+        isNumber(5, 0, axis + 2);
+        isNumber(5, 1, axis);
+        isNumber(10, 2, axis);
     }
 
     private void highestPlace(int axis) {
@@ -906,7 +927,7 @@ final class TermsTest extends SentenceChecks {
         boxAt(1, axis, 0, 10);
         boxAt(2, axis, 0, 11);
         layNext(0, axis, 0, 1);
-        number(999, 1, axis);
+        isNumber(999, 1, axis);
         moveTo(STATE, axis, 0, 990);
         sizeTo(STATE, axis, 0, 11);
         layAlike(STATE, axis, 2, 0);
@@ -917,8 +938,8 @@ final class TermsTest extends SentenceChecks {
         moveTo(1, axis, 0, 990);
         on(1, 1, 0);
         isVoid(1, 6);
-        number(989, 0, axis);
-        number(999, 1, axis);
+        isNumber(989, 0, axis);
+        isNumber(999, 1, axis);
     }
 
     private void lowestPlace(int axis) {
@@ -928,7 +949,7 @@ final class TermsTest extends SentenceChecks {
         layNext(0, axis, 0, 1);
         layAlike(1, axis, 0, 1);
         moveTo(2, axis, 1, -989);
-        number(-999, 0, axis);
+        isNumber(-999, 0, axis);
         moveTo(STATE, axis, 1, -990);
         sizeTo(STATE, axis, 1, 11);
         layNext(STATE, axis, 2, 1);
@@ -938,8 +959,8 @@ final class TermsTest extends SentenceChecks {
         moveTo(1, axis, 1, -990);
         on(1, 1, 0);
         isVoid(1, 7);
-        number(-999, 0, axis);
-        number(-989, 1, axis);
+        isNumber(-999, 0, axis);
+        isNumber(-989, 1, axis);
     }
 
     private void changesNothing() {
@@ -1149,9 +1170,9 @@ final class TermsTest extends SentenceChecks {
     }
 
     private void exportTexts() {
-        says("Its text: for each shape that is there, by numbers, b and the number for a box, t and the number for a label,"
-                + " then a colon, x, a comma, y, a comma, the width, a comma, the height, and, for a label, a comma and"
-                + " its text");
+        says("Its text: for each shape that is there, by numbers, b and the number for a box, t and the number for a"
+                + " label, then a colon, x, a comma, y, a comma, the width, a comma, the height, and, for a label, a comma"
+                + " and its text");
         box(0, 1, 1, 2, 3, 4);
         spell(1, 0);
         label(1, 0, 5, 6, false);
@@ -1186,6 +1207,23 @@ final class TermsTest extends SentenceChecks {
             text.append(",").append(sizes[shape]).append(",").append(100 - sizes[shape]).append(";");
         }
         askAndMake(0, text.toString());
+        longestText();
+    }
+
+    private void longestText() {
+        again();
+        spell(26, 26, 26, 26, 26);
+        StringBuilder text = new StringBuilder();
+        for (int shape = 0; shape < 10; shape++) {
+            label(shape, 0, -999, -999, true);
+            text.append("t").append(shape).append(":-999,-999,10,2,").append(PAIR.repeat(5)).append(";");
+        }
+        for (int rule = 0; rule < 12; rule++) {
+            lay(rule, 1, ALIGN, 8, 9);
+            text.append("r").append(rule).append(";");
+        }
+        askAndMake(0, text.toString());
+        askAndMake(1, text.toString());
     }
 
     // ---- ### Exceptions
