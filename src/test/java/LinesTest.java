@@ -794,6 +794,12 @@ final class LinesTest extends SentenceChecks {
         for (int act = 0; act < counting.length; act++) {
             counts(counting[act], act);
         }
+        again();
+        boxes(1);
+        move(1, 1, 0, 9, 9);
+        back(1, 0);
+        isVoid(1, 1);
+        counts(1, 1);
         says("Throws `IndexOutOfBoundsException` as told");
         counts(OUT, 0);
         boxes(2);
